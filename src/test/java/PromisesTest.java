@@ -907,6 +907,19 @@ public final class PromisesTest {
         }
         due("owes(1, 2), the last 20 undone", x.owes(1, 2), 5);
         due("undo()", x.undo(), false);
+        // The first one, of a patch, is pushed out by 20 debts: the rows must move together.
+        x.patch(2, true);
+        for (int i = 1; i <= 10; i++) {
+            x.owe(0, 1, i);
+            x.owe(2, 0, i);
+        }
+        for (int i = 0; i < 20; i++) {
+            due("undo()", x.undo(), true);
+        }
+        due("undo()", x.undo(), false);
+        due("owes(0, 1)", x.owes(0, 1), 0);
+        due("owes(2, 0)", x.owes(2, 0), 0);
+        due("carrier(2, 4)", carrierOf(x, 2, 4), 1);
         x.send(0, 0, 20);
         x.seed(5);
         x.rest();
@@ -947,6 +960,14 @@ public final class PromisesTest {
         due("undo()", x.undo(), false);
         due("mark(3, true) once more", x.mark(3, true), true);
         due("mark(2, true)", x.mark(2, true), false);
+        x.rest();
+        due("drank(0, 0)", x.drank(0, 0), -1);
+        x.send(2, 0, 30);
+        due("drank(0, 0)", x.drank(0, 0), 2);
+        x.mark(3, true);
+        due("drank(0, 0), the book is held", x.drank(0, 0), 0);
+        due("drank(0, 1), the book is held", x.drank(0, 1), 1);
+        due("drank(0, 2), the book is held", x.drank(0, 2), 3);
         SkinCarriers draws = on(LINE + "carrier x plain skin 9 leak 0 thirst 0;fog 0;spring 200;");
         for (int i = 0; i < 3; i++) {
             draws.send(0, 0, 1);
