@@ -1,120 +1,10 @@
-import java.util.NoSuchElementException;
-
 /** For each promise of DOC.md: ordinary calls, the edges it names, and wrong inputs, with answers worked out by hand. */
-public final class PromisesTest {
-    private static final int THROWN = -1000;
-    private static int wrong = 0;
-    private static int promise = 0;
-
-    /** Two PATHS: 0 over the pool, 1 straight. */
-    private static final String BASE = "station source high 0 fall 0 ; station pool high 40 fall 5 ; station city high 90 fall 0 ;"
-        + " way source pool long 30 thorns 1 ; way pool city long 20 thorns 0 ; way source city long 99 thorns 2 ;"
-        + " carrier ann plain skin 20 leak 1 thirst 3 ; carrier gus goat skin 10 leak 2 thirst 2 ;"
-        + " carrier mol mule skin 15 leak 1 thirst 4 ; owes ann mol 5 ; noon 120 ; spring 30 ; fog 40 ;";
-
-    /** A spring, one station between, a city; ten minutes each. */
-    private static final String LINE = "station a high 50 fall 0;station b high 60 fall 0;station c high 70 fall 0;"
-        + "way a b long 10 thorns 0;way b c long 10 thorns 0;";
-
+public final class PromisesTest extends Checks {
     public static void main(String[] args) {
-        newObject();
-        feed();
-        mountain();
-        faultsOfTokens();
-        faultsOfNames();
-        faultsOfNumbers();
-        faultsOfTooMany();
-        faultsOfLaws();
-        station();
-        way();
-        carrier();
-        paths();
-        path();
-        trip();
-        tripByLaw();
-        send();
-        sendByFogAndFalls();
-        pay();
-        rest();
-        seed();
-        drank();
-        best();
-        plan();
-        relay();
-        owe();
-        owes();
-        debt();
-        settled();
-        missed();
-        odds();
-        patch();
-        undo();
-        mark();
-        count();
-        System.out.println(wrong == 0 ? "all answers are as due" : wrong + " answers are not as due");
-        if (wrong != 0) {
-            System.exit(1);
-        }
+        runAll(PromisesTest.class);
     }
 
-    private static void due(String call, long got, long want) {
-        if (got != want) {
-            wrong++;
-            System.out.println("promise " + promise + ": " + call + " answered " + got + ", due is " + want);
-        }
-    }
-
-    private static void due(String call, boolean got, boolean want) {
-        due(call, got ? 1 : 0, want ? 1 : 0);
-    }
-
-    private static void lay(SkinCarriers x, String text) {
-        for (int at = 0; at < text.length(); at += 24) {
-            long[] parts = new long[3];
-            for (int i = 0; i < 24; i++) {
-                int sign = at + i < text.length() ? text.charAt(at + i) : 0;
-                parts[i / 8] = parts[i / 8] << 8 | sign;
-            }
-            x.feed(parts[0], parts[1], parts[2]);
-        }
-    }
-
-    private static int read(SkinCarriers x, String text) {
-        lay(x, text);
-        return x.mountain();
-    }
-
-    private static SkinCarriers on(String text) {
-        SkinCarriers x = new SkinCarriers();
-        int fault = read(x, text);
-        due("mountain() of <" + text + ">", fault, 0);
-        return x;
-    }
-
-    /** The place is marked by ^ in the text. */
-    private static void fault(int kind, String marked) {
-        int place = marked.indexOf('^');
-        due("mountain() of <" + marked + ">", read(new SkinCarriers(), marked.replace("^", "")), kind + 16 * place);
-    }
-
-    private static int carrierOf(SkinCarriers x, int carrier, int what) {
-        try {
-            return x.carrier(carrier, what);
-        } catch (NoSuchElementException e) {
-            return THROWN;
-        }
-    }
-
-    private static int debtOf(SkinCarriers x, int carrier) {
-        try {
-            return x.debt(carrier);
-        } catch (NoSuchElementException e) {
-            return THROWN;
-        }
-    }
-
-    private static void newObject() {
-        promise = 1;
+    static void promise01NewObject() {
         SkinCarriers x = new SkinCarriers();
         int[] counts = {0, 0, 0, 0, 60, 360, 0, 0, 0};
         for (int what = 0; what < counts.length; what++) {
@@ -136,8 +26,7 @@ public final class PromisesTest {
         due("NONE", SkinCarriers.NONE, -1);
     }
 
-    private static void feed() {
-        promise = 2;
+    static void promise02Feed() {
         SkinCarriers x = new SkinCarriers();
         due("feed of zeros", x.feed(0, 0, 0), 0);
         due("feed of a blank and a line", x.feed(0x200AL, 0, 0), 2);
@@ -158,8 +47,7 @@ public final class PromisesTest {
         due("mountain() of what is beyond 1,000", end.mountain(), 1 + 16 * 998);
     }
 
-    private static void mountain() {
-        promise = 3;
+    static void promise03Mountain() {
         SkinCarriers x = on(BASE);
         due("count(0)", x.count(0), 3);
         due("count(1)", x.count(1), 3);
@@ -196,7 +84,7 @@ public final class PromisesTest {
         due("count(5)", x.count(5), 7);
     }
 
-    private static void faultsOfTokens() {
+    static void promise03FaultsOfTokens() {
         fault(1, "^well");
         fault(1, "^?");
         fault(1, "^;");
@@ -221,7 +109,7 @@ public final class PromisesTest {
         fault(1, "way ^way");
     }
 
-    private static void faultsOfNames() {
+    static void promise03FaultsOfNames() {
         String told = "station p high 1 fall 1;station q high 1 fall 1;carrier c plain skin 9 leak 1 thirst 1;carrier d goat skin 9 leak 1 thirst 1;";
         fault(2, "way ^p");
         fault(2, told + "way ^z");
@@ -249,7 +137,7 @@ public final class PromisesTest {
         fault(3, "noon 1;^noon");
     }
 
-    private static void faultsOfNumbers() {
+    static void promise03FaultsOfNumbers() {
         fault(4, "fog ^100;");
         fault(4, "spring ^201;");
         fault(4, "noon ^0;");
@@ -272,7 +160,7 @@ public final class PromisesTest {
         due("most ones", read(new SkinCarriers(), "fog 99;spring 200;noon 999;"), 0);
     }
 
-    private static void faultsOfTooMany() {
+    static void promise03FaultsOfTooMany() {
         StringBuilder stations = new StringBuilder();
         for (int i = 0; i < 7; i++) {
             stations.append("station s").append((char) ('a' + i)).append(" high 1 fall 1;");
@@ -297,7 +185,7 @@ public final class PromisesTest {
         fault(5, carriers + "^carrier");
     }
 
-    private static void faultsOfLaws() {
+    static void promise03FaultsOfLaws() {
         fault(1, "drink ^above");
         fault(1, "price ^left");
         fault(1, "drink ^;");
@@ -328,8 +216,7 @@ public final class PromisesTest {
         due("TESTS joined", read(new SkinCarriers(), "drink 1 < 2 and 3 = 4 or (1 < 2) < (2 = 3);"), 0);
     }
 
-    private static void station() {
-        promise = 4;
+    static void promise04Station() {
         SkinCarriers x = on(BASE);
         due("station(1, 0)", x.station(1, 0), 40);
         due("station(1, 1)", x.station(1, 1), 5);
@@ -346,8 +233,7 @@ public final class PromisesTest {
         due("station(max, 2)", x.station(Integer.MAX_VALUE, 2), -1);
     }
 
-    private static void way() {
-        promise = 5;
+    static void promise05Way() {
         SkinCarriers x = on(BASE + "station top high 1 fall 1;");
         due("way(0, 1, 0)", x.way(0, 1, 0), 30);
         due("way(1, 0, 0)", x.way(1, 0, 0), 30);
@@ -363,8 +249,7 @@ public final class PromisesTest {
         due("way(0, 1, -1)", x.way(0, 1, -1), -1);
     }
 
-    private static void carrier() {
-        promise = 6;
+    static void promise06Carrier() {
         SkinCarriers x = on(BASE);
         int[] mol = {2, 30, 1, 4, 0, 0, 0};
         for (int what = 0; what < mol.length; what++) {
@@ -389,8 +274,7 @@ public final class PromisesTest {
         due("carrier(4, 4), patched but not by hand", carrierOf(kinds, 4, 4), 0);
     }
 
-    private static void paths() {
-        promise = 7;
+    static void promise07Paths() {
         due("paths()", on(BASE).paths(), 2);
         due("paths() without a way", on("station a high 1 fall 1;station b high 1 fall 1;").paths(), 0);
         due("paths() with one station", on("station a high 1 fall 1;").paths(), 1);
@@ -417,8 +301,7 @@ public final class PromisesTest {
         return text.toString();
     }
 
-    private static void path() {
-        promise = 8;
+    static void promise08Path() {
         SkinCarriers x = on(BASE);
         int[][] rows = {{0, 1, 2, -1}, {0, 2, -1, -1}, {-1, -1, -1, -1}};
         for (int p = 0; p < 3; p++) {
@@ -443,8 +326,7 @@ public final class PromisesTest {
         }
     }
 
-    private static void trip() {
-        promise = 9;
+    static void promise09Trip() {
         SkinCarriers x = on(BASE);
         int[][] rows = {{0, 0, 20, 11, 50, 3, 6}, {0, 1, 20, 9, 99, 0, 11}, {1, 0, 10, 0, 50, 4, 6}, {2, 0, 30, 20, 75, 4, 6},
             {2, 1, 30, 19, 148, 0, 11}, {0, 0, 5, 0, 50, 1, 4}, {0, 0, 0, 0, 50, 0, 0}, {1, 1, 10, 0, 99, 0, 10}};
@@ -478,7 +360,7 @@ public final class PromisesTest {
         return on(LINE + "carrier x " + kind + " skin 60 leak 0 thirst 7;carrier y plain skin 9 leak 0 thirst 0;owes x y 4;drink " + drink + ";").trip(0, 0, 60, 2);
     }
 
-    private static void tripByLaw() {
+    static void promise09TripByLaw() {
         due("thirst", drunkBy("plain", "thirst"), 7);
         due("left", drunkBy("plain", "left - 50"), 10);
         due("high", drunkBy("plain", "high - 40"), 20);
@@ -511,8 +393,7 @@ public final class PromisesTest {
         due("a cousin at 1", x.trip(0, 0, 9, 2), 0);
     }
 
-    private static void send() {
-        promise = 10;
+    static void promise10Send() {
         SkinCarriers x = on(BASE);
         due("send(0, 0, 21)", x.send(0, 0, 21), -1);
         due("send(0, 2, 1)", x.send(0, 2, 1), -1);
@@ -536,7 +417,7 @@ public final class PromisesTest {
         due("send is not bound to noon", late.send(0, 0, 5), 5);
     }
 
-    private static void sendByFogAndFalls() {
+    static void promise10SendByFogAndFalls() {
         String two = "carrier x plain skin 9 leak 0 thirst 0;carrier y licker skin 9 leak 0 thirst 0;";
         // From SEED 0 the DRAWS below 4 are 0, 0, 0, 1, 2, 3.
         int[] draws = {0, 0, 0, 1, 2, 3};
@@ -577,8 +458,7 @@ public final class PromisesTest {
         due("what was left in it", ahead.station(1, 2), 0);
     }
 
-    private static void pay() {
-        promise = 10;
+    static void promise10Pay() {
         String three = LINE + "carrier x plain skin 20 leak 0 thirst 0;carrier y plain skin 20 leak 0 thirst 0;carrier z plain skin 20 leak 0 thirst 0;";
         SkinCarriers x = on(three + "price 10 - above + came * 2;");
         x.send(0, 0, 5);
@@ -600,8 +480,7 @@ public final class PromisesTest {
         due("no price told", carrierOf(plain, 0, 6), 7);
     }
 
-    private static void rest() {
-        promise = 11;
+    static void promise11Rest() {
         SkinCarriers x = on(BASE);
         x.send(0, 0, 20);
         due("rest()", x.rest(), 15);
@@ -625,8 +504,7 @@ public final class PromisesTest {
         due("rest leaves patches", carrierOf(came, 0, 4), 1);
     }
 
-    private static void seed() {
-        promise = 12;
+    static void promise12Seed() {
         SkinCarriers x = on(LINE + "carrier x plain skin 9 leak 0 thirst 0;fog 0;");
         due("seed(-1)", x.seed(-1), false);
         due("seed(10000)", x.seed(10000), false);
@@ -640,8 +518,7 @@ public final class PromisesTest {
         due("a wrong seed changes nothing", x.send(0, 0, 2), 2 + g / 65536 % 4);
     }
 
-    private static void drank() {
-        promise = 13;
+    static void promise13Drank() {
         SkinCarriers x = on(BASE + "carrier tim plain skin 5 leak 0 thirst 0;");
         x.send(0, 0, 20);
         x.send(3, 0, 2);
@@ -657,8 +534,7 @@ public final class PromisesTest {
         due("drank(0, -1)", x.drank(0, -1), -1);
     }
 
-    private static void best() {
-        promise = 14;
+    static void promise14Best() {
         SkinCarriers x = on(BASE);
         due("best(0, 20, 0)", x.best(0, 20, 0), 0);
         due("best(0, 20, 1)", x.best(0, 20, 1), 11);
@@ -681,8 +557,7 @@ public final class PromisesTest {
         due("who was sent, too", x.best(0, 20, 1), 11);
     }
 
-    private static void plan() {
-        promise = 15;
+    static void promise15Plan() {
         SkinCarriers x = on(BASE);
         int[] row = {20, 0, -1, 0, -1, 30, 0};
         for (int what = -1; what < 6; what++) {
@@ -719,8 +594,7 @@ public final class PromisesTest {
         due("a full spring, the second", all.plan(2), 120);
     }
 
-    private static void relay() {
-        promise = 16;
+    static void promise16Relay() {
         SkinCarriers x = on(BASE);
         int[] twenty = {11, 0, 0, 0, -1, -1};
         int[] thirty = {20, 0, 2, 2, -1, -1};
@@ -761,8 +635,7 @@ public final class PromisesTest {
         due("relay(30, 0) patched", stale.relay(30, 0), 20);
     }
 
-    private static void owe() {
-        promise = 17;
+    static void promise17Owe() {
         SkinCarriers x = on(BASE);
         due("owe(1, 0, 3)", x.owe(1, 0, 3), true);
         due("owe(1, 0, 3) again", x.owe(1, 0, 3), false);
@@ -780,8 +653,7 @@ public final class PromisesTest {
         due("count(7)", x.count(7), 3);
     }
 
-    private static void owes() {
-        promise = 18;
+    static void promise18Owes() {
         SkinCarriers x = on(BASE);
         due("owes(0, 2)", x.owes(0, 2), 5);
         due("owes(2, 0)", x.owes(2, 0), 0);
@@ -792,8 +664,7 @@ public final class PromisesTest {
         due("owes(0, min)", x.owes(0, Integer.MIN_VALUE), -1);
     }
 
-    private static void debt() {
-        promise = 19;
+    static void promise19Debt() {
         SkinCarriers x = on(BASE);
         x.owe(2, 1, 7);
         due("debt(0)", debtOf(x, 0), 5);
@@ -803,8 +674,7 @@ public final class PromisesTest {
         due("debt(-1)", debtOf(x, -1), THROWN);
     }
 
-    private static void settled() {
-        promise = 20;
+    static void promise20Settled() {
         SkinCarriers x = on(BASE);
         due("settled()", x.settled(), 1);
         x.owe(1, 0, 3);
@@ -824,8 +694,7 @@ public final class PromisesTest {
         due("settled() of two triples", triples.settled(), 4);
     }
 
-    private static void missed() {
-        promise = 21;
+    static void promise21Missed() {
         SkinCarriers x = on(BASE);
         int[][] rows = {{0, 1, 0}, {1, 0, 0}, {4, 1, 4}, {5, 1, 3}, {9, 1, 7}, {10, 0, 0}, {99, 0, 0}, {100, -1, -1}, {-1, -1, -1}};
         for (int[] row : rows) {
@@ -841,8 +710,7 @@ public final class PromisesTest {
         due("missed(0, 0)", y.missed(0, 0), 2);
     }
 
-    private static void odds() {
-        promise = 22;
+    static void promise22Odds() {
         SkinCarriers y = on("carrier a plain skin 1 leak 0 thirst 2;carrier b plain skin 1 leak 0 thirst 2;carrier c plain skin 1 leak 0 thirst 3;carrier d plain skin 1 leak 0 thirst 1;");
         // 5 comes of a c, of b c and of a b d.
         int[][] rows = {{0, 2, 3}, {1, 2, 3}, {2, 2, 3}, {3, 1, 3}};
@@ -869,8 +737,7 @@ public final class PromisesTest {
         due("odds(-1, 0, 0)", y.odds(-1, 0, 0), -1);
     }
 
-    private static void patch() {
-        promise = 23;
+    static void promise23Patch() {
         SkinCarriers x = on(BASE);
         due("patch(0, false), it is so", x.patch(0, false), false);
         due("patch(0, true)", x.patch(0, true), true);
@@ -883,8 +750,7 @@ public final class PromisesTest {
         due("count(7)", x.count(7), 2);
     }
 
-    private static void undo() {
-        promise = 24;
+    static void promise24Undo() {
         SkinCarriers x = on(BASE);
         x.owe(0, 2, 6);
         x.patch(1, true);
@@ -926,8 +792,7 @@ public final class PromisesTest {
         due("what is no patch and no debt", x.undo(), false);
     }
 
-    private static void mark() {
-        promise = 25;
+    static void promise25Mark() {
         SkinCarriers x = on(BASE);
         due("mark(4, false)", x.mark(4, false), false);
         due("mark(-1, false)", x.mark(-1, false), false);
@@ -980,8 +845,7 @@ public final class PromisesTest {
         due("mark(0, false) without a mountain", new SkinCarriers().mark(0, false), true);
     }
 
-    private static void count() {
-        promise = 26;
+    static void promise26Count() {
         SkinCarriers x = on(BASE);
         x.send(0, 0, 20);
         x.patch(0, true);

@@ -2,7 +2,7 @@ import java.util.NoSuchElementException;
 import java.util.Random;
 
 /** The dearest runs: any arguments in any state, 512 calls of one object, and nothing but what the document throws. */
-public final class RoomTest {
+public final class RoomTest extends Checks {
     private static int wrong = 0;
 
     public static void main(String[] args) {
@@ -11,16 +11,6 @@ public final class RoomTest {
         System.out.println(wrong == 0 ? "all answers are as due" : wrong + " answers are not as due");
         if (wrong != 0) {
             System.exit(1);
-        }
-    }
-
-    private static void lay(SkinCarriers x, String text) {
-        for (int at = 0; at < text.length(); at += 8) {
-            long eight = 0;
-            for (int i = at; i < at + 8; i++) {
-                eight = eight << 8 | (i < text.length() ? text.charAt(i) : 0);
-            }
-            x.feed(eight, 0, 0);
         }
     }
 
