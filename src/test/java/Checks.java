@@ -59,7 +59,7 @@ abstract class Checks {
         return wrong == 0;
     }
 
-    private static void tell(String what) {
+    static void tell(String what) {
         wrong++;
         System.out.println(test + ": " + what);
     }
@@ -92,6 +92,24 @@ abstract class Checks {
     static String line(int high, int fall, int minutes, int thorns) {
         return station("a", 50, 0) + station("b", high, fall) + station("c", 70, 0)
             + way("a", "b", minutes, thorns) + way("b", "c", minutes, thorns);
+    }
+
+    /** STATIONS a to g, 12 higher each, with falls of 3 and the twelve ways of 9 minutes that leave the most PATHS: 37. */
+    static String richest() {
+        StringBuilder text = new StringBuilder();
+        for (int i = 0; i < 7; i++) {
+            text.append(station(String.valueOf((char) ('a' + i)), 12 * i, 3));
+        }
+        int bit = 0;
+        for (char a = 'a'; a <= 'g'; a++) {
+            for (char b = (char) (a + 1); b <= 'g'; b++) {
+                if ((0x2ddcb >> bit & 1) != 0) {
+                    text.append(way(String.valueOf(a), String.valueOf(b), 9, 0));
+                }
+                bit++;
+            }
+        }
+        return text.toString();
     }
 
     /** So many plain CARRIERS, named from p on, who neither leak nor drink. */

@@ -383,6 +383,37 @@ public final class DebtBoundariesTest extends Checks {
         due("patch(2, false), it is so again", x.patch(2, false), false);
     }
 
+    /** "patches, debts": of each CARRIER and each pair, and of no other one. */
+    static void promise24OfEachPair() {
+        for (int a = 0; a < 6; a++) {
+            SkinCarriers x = on(plainOnes(6, 9));
+            for (int b = 0; b < 6; b++) {
+                x.owe(a, b, 10 + b);
+            }
+            x.patch(a, true);
+            for (int b = 0; b < 6; b++) {
+                x.owe(b, a, 20 + b);
+            }
+            for (int i = 0; i < 5; i++) {
+                due("undo()", x.undo(), true);
+            }
+            due("carrier(" + a + ", 4)", carrierOf(x, a, 4), 1);
+            due("undo()", x.undo(), true);
+            for (int b = 0; b < 6; b++) {
+                due("carrier(" + b + ", 4)", carrierOf(x, b, 4), 0);
+                due("owes(" + a + ", " + b + ")", x.owes(a, b), a == b ? NONE : 10 + b);
+                due("owes(" + b + ", " + a + ")", x.owes(b, a), a == b ? NONE : 0);
+            }
+            for (int i = 0; i < 5; i++) {
+                due("undo()", x.undo(), true);
+            }
+            for (int b = 0; b < 6; b++) {
+                due("owes(" + a + ", " + b + ")", x.owes(a, b), a == b ? NONE : 0);
+            }
+            due("undo()", x.undo(), false);
+        }
+    }
+
     /** What was undone can't be undone: a new one comes in its place. */
     static void promise24NotOfUndo() {
         SkinCarriers x = on(plainOnes(2, 9));

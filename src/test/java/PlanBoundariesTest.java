@@ -130,6 +130,15 @@ public final class PlanBoundariesTest extends Checks {
         plan(on(TRIANGLE + plainOnes(2, 9) + "spring 0;"), 0, 0, NONE, 0, NONE);
     }
 
+    /** "no more together": who comes behind has what is left of it. */
+    static void promise15WhoComesBehindHasTheRest() {
+        // x has all its 9, as y would drink 4 of its own; of the 3 behind nothing would be left.
+        plan(on(LINE + carrier("x", "plain", 9, 0, 0) + carrier("y", "plain", 9, 0, 4) + "spring 12;"), 9, 9, 0, 0, NONE);
+        plan(on(LINE + carrier("x", "plain", 9, 0, 0) + carrier("y", "plain", 9, 0, 4) + "spring 14;"), 10, 5, 0, 9, 0);
+        plan(on(LINE + carrier("x", "plain", 9, 0, 0) + carrier("y", "plain", 9, 0, 4) + carrier("z", "plain", 9, 0, 8) + "spring 17;"),
+            13, 8, 0, 9, 0, 0, NONE);
+    }
+
     /** The most: "spring 200", "skin 60", "a mule's holds twice as much", six CARRIERS. */
     static void promise15TheMostOfAll() {
         String mules = carrier("m", "mule", 60, 0, 0) + carrier("n", "mule", 60, 0, 0);
@@ -199,6 +208,17 @@ public final class PlanBoundariesTest extends Checks {
         plan(on(TRIANGLE + carrier("x", "plain", 9, 0, 1)), 9, 9, 1);
         plan(on(DETOUR + plainOnes(1, 9) + "noon 39;"), 9, 9, 1);
         plan(on(DETOUR + plainOnes(1, 9) + "noon 40;"), 9, 9, 0);
+    }
+
+    /** PLAN is of the MOUNTAIN told last, though more went on the one ahead. */
+    static void promise15FewerThanBefore() {
+        SkinCarriers x = on(TRIANGLE + plainOnes(6, 60) + "spring 200;");
+        due("plan(-1)", x.plan(NONE), 200);
+        for (int howMany = 5; howMany >= 1; howMany--) {
+            read(x, TRIANGLE + plainOnes(howMany, 2) + "spring 200;");
+            due("plan(-1) of " + howMany, x.plan(NONE), 2 * howMany);
+            due("plan(0) of " + howMany, x.plan(0), 2);
+        }
     }
 
     /** PLAN is by the debts and patches as they are now. */
@@ -351,6 +371,16 @@ public final class PlanBoundariesTest extends Checks {
         due("count(3)", x.count(3), above);
         due("count(6)", x.count(6), 1);
         due("station(1, 2)", x.station(1, 2), fall);
+    }
+
+    /** RELAY goes by the PATHS of the MOUNTAIN told last, though there were more on the one ahead. */
+    static void promise16FewerPathsThanBefore() {
+        SkinCarriers x = on(TRIANGLE + carrier("x", "plain", 20, 0, 5));
+        relay(x, 20, 20, 1, 0);
+        best(x, 0, 20, 1, 20);
+        read(x, LINE + carrier("x", "plain", 20, 0, 5));
+        relay(x, 20, 15, 0, 0, 0);
+        best(x, 0, 20, 0, 15);
     }
 
     /** RELAY is of each load anew, and by the debts and patches as they are now. */

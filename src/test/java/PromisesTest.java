@@ -283,24 +283,6 @@ public final class PromisesTest extends Checks {
         due("paths() of the richest mountain", on(richest()).paths(), 37);
     }
 
-    /** The twelve ways that leave the most PATHS between seven stations. */
-    private static String richest() {
-        StringBuilder text = new StringBuilder();
-        for (int i = 0; i < 7; i++) {
-            text.append("station s").append((char) ('a' + i)).append(" high 1 fall 1;");
-        }
-        int bit = 0;
-        for (int a = 0; a < 7; a++) {
-            for (int b = a + 1; b < 7; b++) {
-                if ((0x2ddcb >> bit & 1) != 0) {
-                    text.append("way s").append((char) ('a' + a)).append(" s").append((char) ('a' + b)).append(" long 9 thorns 0;");
-                }
-                bit++;
-            }
-        }
-        return text.toString();
-    }
-
     static void promise08Path() {
         SkinCarriers x = on(BASE);
         int[][] rows = {{0, 1, 2, -1}, {0, 2, -1, -1}, {-1, -1, -1, -1}};

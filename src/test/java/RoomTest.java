@@ -1,61 +1,59 @@
+import com.sun.management.ThreadMXBean;
+import java.lang.management.ManagementFactory;
 import java.util.NoSuchElementException;
 import java.util.Random;
 
-/** The dearest runs: any arguments in any state, 512 calls of one object, and nothing but what the document throws. */
+/** All promises: any arguments in any state, 512 calls of one object, the dearest calls, and the room that they take. */
 public final class RoomTest extends Checks {
-    private static int wrong = 0;
+    private static final int CALLS = 512;
 
     public static void main(String[] args) {
-        anyArguments();
-        dearestPlans();
-        System.out.println(wrong == 0 ? "all answers are as due" : wrong + " answers are not as due");
-        if (wrong != 0) {
-            System.exit(1);
-        }
+        runAll(RoomTest.class);
     }
 
-    /** Seven stations, the twelve ways with the most PATHS, and the law behind them. */
-    private static String mountain(int carriers, String law) {
-        StringBuilder text = new StringBuilder();
-        for (int i = 0; i < 7; i++) {
-            text.append("station ").append((char) ('a' + i)).append(" high ").append(12 * i).append(" fall 3;");
-        }
-        int bit = 0;
-        for (int a = 0; a < 7; a++) {
-            for (int b = a + 1; b < 7; b++) {
-                if ((0x2ddcb >> bit & 1) != 0) {
-                    text.append("way ").append((char) ('a' + a)).append(' ').append((char) ('a' + b)).append(" long 9 thorns 0;");
-                }
-                bit++;
-            }
-        }
-        for (int i = 0; i < carriers; i++) {
-            text.append("carrier ").append((char) ('p' + i)).append(" mule skin 60 leak 1 thirst 1;");
+    /** The richest mountain, with mules, and the law behind them. */
+    private static String mountain(int mules, String law) {
+        StringBuilder text = new StringBuilder(richest());
+        for (int i = 0; i < mules; i++) {
+            text.append(carrier(String.valueOf((char) ('p' + i)), "mule", 60, 1, 1));
         }
         return text + "drink " + law + ";spring 200;fog 30;";
+    }
+
+    /** A law as long as the TAPE has room for behind the mules. */
+    private static String dearest(int mules) {
+        StringBuilder law = new StringBuilder("1");
+        while (mountain(mules, law.toString()).length() <= 996) {
+            law.append("*1");
+        }
+        return mountain(mules, law.toString());
     }
 
     private static int any(Random random) {
         switch (random.nextInt(8)) {
             case 0: return random.nextInt();
-            case 1: return Integer.MIN_VALUE + random.nextInt(3);
-            case 2: return Integer.MAX_VALUE - random.nextInt(3);
+            case 1: return LEAST + random.nextInt(3);
+            case 2: return MOST - random.nextInt(3);
             case 3: return random.nextInt(200) - 100;
             default: return random.nextInt(9) - 2;
         }
     }
 
-    private static void anyArguments() {
+    /** "No call may ever throw by itself .. or fail to end, for any arguments in any state" (LANGUAGE.md, 7). */
+    static void promisesAllForAnyArguments() {
         Random random = new Random(5);
-        String[] texts = {"", "station a high 0 fall 0;", mountain(3, "thirst"), mountain(6, "left*minute-debt"), "carrier a goat skin 9 leak 1 thirst 1;"};
-        for (int run = 0; run < 300; run++) {
+        String[] texts = {"", station("a", 0, 0), mountain(3, "thirst"), mountain(6, "left*minute-debt"), carrier("a", "goat", 9, 1, 1), dearest(4)};
+        for (int run = 0; run < 280; run++) {
             SkinCarriers x = new SkinCarriers();
-            if (run % 6 < texts.length) {
-                lay(x, texts[run % 6]);
+            int calls = 0;
+            if (run % 7 < texts.length) {
+                lay(x, texts[run % 7]);
                 x.mountain();
+                calls = texts[run % 7].length() / 24 + 2;
             }
-            for (int call = 0; call < 200; call++) {
+            while (calls < CALLS) {
                 callAny(x, random, run);
+                calls++;
             }
         }
     }
@@ -97,36 +95,87 @@ public final class RoomTest extends Checks {
             }
         } catch (NoSuchElementException e) {
             if (which != 4 && which != 17) {
-                tell(run, which, e);
+                tell("run " + run + ": the call of number " + which + " threw " + e);
             }
         } catch (RuntimeException e) {
-            tell(run, which, e);
+            tell("run " + run + ": the call of number " + which + " threw " + e);
         }
     }
 
-    private static void tell(int run, int which, RuntimeException e) {
-        wrong++;
-        System.out.println("run " + run + ": the call of number " + which + " threw " + e);
+    /** "An object is used for at most 512 calls": PLAN and RELAY are made anew to the last, with the longest law. */
+    static void promisesAllFor512Calls() {
+        for (int mules = 4; mules <= 6; mules += 2) {
+            SkinCarriers x = on(dearest(mules));
+            due("paths()", x.paths(), 37);
+            int calls = 46;
+            int together = x.plan(NONE);
+            int relayed = x.relay(60, 0);
+            while (calls + 6 <= CALLS) {
+                due("patch(0, true)", x.patch(0, true), true);
+                x.plan(NONE);
+                due("undo()", x.undo(), true);
+                due("plan(-1)", x.plan(NONE), together);
+                due("relay(60, 0)", x.relay(60, 0), relayed);
+                due("count(7)", x.count(7), 0);
+                calls += 6;
+            }
+        }
     }
 
-    /** PLAN and RELAY made anew at each call, with a law as long as the TAPE has room for. */
-    private static void dearestPlans() {
-        for (int carriers = 4; carriers <= 6; carriers += 2) {
-            StringBuilder law = new StringBuilder("1");
-            while (mountain(carriers, law.toString()).length() <= 996) {
-                law.append("*1");
-            }
-            SkinCarriers x = new SkinCarriers();
-            lay(x, mountain(carriers, law.toString()));
-            int fault = x.mountain();
-            if (fault != 0 || x.paths() != 37) {
-                wrong++;
-                System.out.println("the dearest mountain answered " + fault + " and " + x.paths() + " paths");
-            }
-            for (int i = 0; i < 30; i++) {
-                x.patch(0, i % 2 == 0);
-                x.plan(-1);
-                x.relay(60, 0);
+    /** The room of all calls of a run: an object is small, and a call makes next to nothing. */
+    static void promisesAllInOneRoom() {
+        ThreadMXBean threads = (ThreadMXBean) ManagementFactory.getThreadMXBean();
+        long thread = Thread.currentThread().getId();
+        makeAndUse();
+        long before = threads.getThreadAllocatedBytes(thread);
+        SkinCarriers x = new SkinCarriers();
+        long made = threads.getThreadAllocatedBytes(thread) - before;
+        if (made > 50000) {
+            tell("an object takes " + made + " bytes");
+        }
+        lay(x, mountain(4, "thirst"));
+        before = threads.getThreadAllocatedBytes(thread);
+        x.mountain();
+        useAll(x);
+        long used = threads.getThreadAllocatedBytes(thread) - before;
+        if (used > 5000) {
+            tell("some 1,000 calls take " + used + " bytes");
+        }
+    }
+
+    /** So that what is loaded at the first use does not count. */
+    private static void makeAndUse() {
+        SkinCarriers x = on(mountain(4, "thirst"));
+        useAll(x);
+    }
+
+    private static void useAll(SkinCarriers x) {
+        for (int i = 0; i < 40; i++) {
+            int c = i % 4;
+            x.feed(0, 0, i);
+            x.station(c, 2);
+            x.way(c, c + 1, 0);
+            x.carrier(c, 6);
+            x.path(i, 1);
+            x.trip(c, i % 37, i, 0);
+            x.send(c, i % 37, 10);
+            x.seed(i);
+            x.drank(i, 2);
+            x.best(c, i, 1);
+            x.plan(NONE);
+            x.relay(i, 0);
+            x.owe(c, (c + 1) % 4, 1 + i);
+            x.owes(c, (c + 1) % 4);
+            x.debt(c);
+            x.settled();
+            x.missed(i % 5, 1);
+            x.odds(i % 5, c, 1);
+            x.patch(c, i % 8 < 4);
+            x.mark(c, i % 3 == 0);
+            x.count(i % 9);
+            if (i % 4 == 3) {
+                x.rest();
+                x.undo();
             }
         }
     }

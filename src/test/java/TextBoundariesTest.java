@@ -198,6 +198,19 @@ public final class TextBoundariesTest extends Checks {
         fault(1, "noon 5 ^aaaaaaaaa;");
     }
 
+    /** A TOKEN at the very end of a full TAPE, and one that the end cuts short. */
+    static void promise03TheLastTokenOfAFullTape() {
+        String[] words = {"n", "noo", "noon", "not", "no", "stati", "price"};
+        for (String word : words) {
+            boolean begins = word.equals("noon") || word.equals("price");
+            String text = " ".repeat(1000 - word.length()) + word;
+            due("<.. " + word + ">", read(new SkinCarriers(), text), begins ? 1 + 16 * 1000 : 1 + 16 * (1000 - word.length()));
+        }
+        due("a full NUMBER", read(new SkinCarriers(), " ".repeat(991) + "noon 9999"), 4 + 16 * 996);
+        due("a NUMBER cut short", read(new SkinCarriers(), " ".repeat(992) + "noon 99995;"), 1 + 16 * 1000);
+        due("a full sign", read(new SkinCarriers(), " ".repeat(993) + "noon 9;"), 0);
+    }
+
     /** "letters a .. z": not those around them, nor capital ones. */
     static void promise03LettersAToZ() {
         good(station("az", 1, 1) + station("za", 1, 1));
@@ -495,6 +508,26 @@ public final class TextBoundariesTest extends Checks {
         SkinCarriers x = on(FOUR + "owes c d 1;owes d c 2;");
         due("owes(0, 1)", x.owes(0, 1), 1);
         due("owes(1, 0)", x.owes(1, 0), 2);
+    }
+
+    /** "owes: .. each pair, this way round, once": all thirty of six CARRIERS. */
+    static void promise03AllPairsOfOwes() {
+        StringBuilder text = new StringBuilder(plainOnes(6, 1));
+        for (int a = 0; a < 6; a++) {
+            for (int b = 0; b < 6; b++) {
+                if (a != b) {
+                    text.append("owes ").append((char) ('p' + a)).append(' ').append((char) ('p' + b)).append(' ').append(10 * a + b + 1).append(';');
+                }
+            }
+        }
+        SkinCarriers x = on(text.toString());
+        for (int a = 0; a < 6; a++) {
+            for (int b = 0; b < 6; b++) {
+                due("owes(" + a + ", " + b + ")", x.owes(a, b), a == b ? NONE : 10 * a + b + 1);
+            }
+        }
+        fault(3, text + "owes p ^q 1;");
+        fault(3, text + "owes u ^t 1;");
     }
 
     /** "owes: .. mouthfuls, 1 to 99". */
@@ -861,6 +894,18 @@ public final class TextBoundariesTest extends Checks {
         }
         due("mountain() with a FAULT", read(x, "?"), 1);
         due("the fourth DRAW", x.send(0, 0, 1), 2);
+    }
+
+    /** Nothing of an E with a FAULT goes into the next one. */
+    static void promise03NothingOfAFaultyE() {
+        String[] faulty = {"drink not not not not not", "drink ((((1", "drink 1 <", "drink not", "drink 7 and 7 < 7 + 7 *", "drink (1 or (2 * not (3"};
+        for (String text : faulty) {
+            SkinCarriers x = new SkinCarriers();
+            due("mountain() of <" + text + ">", read(x, text), 1 + 16 * text.length());
+            due("mountain() behind it", read(x, LINE + plainOnes(1, 60) + "drink 1 + (5 < 2 * ((3))) * 20;price 3 = not not not not 4;"), 0);
+            due("the E behind it", x.trip(0, 0, 60, 2), 21);
+            due("a ) too many behind it", read(x, "drink 1);"), 1 + 16 * 7);
+        }
     }
 
     /** Nothing of a text with a FAULT goes into the next one. */

@@ -36,6 +36,21 @@ public final class TripBoundariesTest extends Checks {
         }
     }
 
+    /** The seventh STATION has it all, too. */
+    static void promise04TheSeventhStation() {
+        StringBuilder text = new StringBuilder();
+        for (int i = 0; i < 7; i++) {
+            text.append(station("s" + (char) ('a' + i), 10 * i, 9 - i));
+        }
+        SkinCarriers x = on(text.toString());
+        for (int i = 0; i < 7; i++) {
+            due("station(" + i + ", 0)", x.station(i, 0), 10 * i);
+            due("station(" + i + ", 1)", x.station(i, 1), 9 - i);
+            due("station(" + i + ", 2)", x.station(i, 2), 9 - i);
+        }
+        due("station(7, 2)", x.station(7, 2), NONE);
+    }
+
     /** "2: what its fall still gives": all, a part, nothing. */
     static void promise04WhatItsFallStillGives() {
         SkinCarriers x = on(line(60, 9, 10, 0) + plainOnes(3, 9));
@@ -185,20 +200,7 @@ public final class TripBoundariesTest extends Checks {
 
     /** The most PATHS that there can be. */
     static void promise07TheMostPaths() {
-        StringBuilder text = new StringBuilder();
-        for (int i = 0; i < 7; i++) {
-            text.append(station("s" + (char) ('a' + i), 1, 1));
-        }
-        int bit = 0;
-        for (int a = 0; a < 7; a++) {
-            for (int b = a + 1; b < 7; b++) {
-                if ((0x8ddc7 >> bit & 1) != 0) {
-                    text.append(way("s" + (char) ('a' + a), "s" + (char) ('a' + b), 1, 0));
-                }
-                bit++;
-            }
-        }
-        SkinCarriers x = on(text.toString());
+        SkinCarriers x = on(richest());
         due("count(1)", x.count(1), 12);
         due("paths()", x.paths(), 37);
         for (int i = 0; i < 37; i++) {
@@ -488,6 +490,21 @@ public final class TripBoundariesTest extends Checks {
         due("not (0 * 5)", drunkBy("plain", "not (0 * 5)"), 1);
         due("9 - (3 - 2)", drunkBy("plain", "9 - (3 - 2)"), 8);
         due("0 < 0 - 1 or 1", drunkBy("plain", "0 < 0 - 1 or 1"), 1);
+    }
+
+    /** "( E )": all of it, whatever joins it within and without. */
+    static void promise09AnEWithinBrackets() {
+        due("7 - (5 and 3)", drunkBy("plain", "7 - (5 and 3)"), 6);
+        due("7 - (5 or 3) - 2", drunkBy("plain", "7 - (5 or 3) - 2"), 4);
+        due("2 * (3 + 4)", drunkBy("plain", "2 * (3 + 4)"), 14);
+        due("(3 + 4) * 2", drunkBy("plain", "(3 + 4) * 2"), 14);
+        due("9 * (1 < 2) + 4", drunkBy("plain", "9 * (1 < 2) + 4"), 13);
+        due("9 * (2 < 1) + 4", drunkBy("plain", "9 * (2 < 1) + 4"), 4);
+        due("9 - not (0 and 1) * 5", drunkBy("plain", "9 - not (0 and 1) * 5"), 4);
+        due("((2 + 3) * (4 - 1 or 0) and 1) * 6", drunkBy("plain", "((2 + 3) * (4 - 1 or 0) and 1) * 6"), 6);
+        due("9 - (8 - (7 - (6 - 1)))", drunkBy("plain", "9 - (8 - (7 - (6 - 1)))"), 3);
+        due("(1 and 1) + (1 or 0) * (7 = 7) - (3 < 3)", drunkBy("plain", "(1 and 1) + (1 or 0) * (7 = 7) - (3 < 3)"), 2);
+        due("20 - (1 + (2 * (3 < (4 and 5))))", drunkBy("plain", "20 - (1 + (2 * (3 < (4 and 5))))"), 19);
     }
 
     /** "Without drink: thirst". */
