@@ -348,21 +348,29 @@ public final class DebtBoundariesTest extends Checks {
     static void promise24TheLast20() {
         SkinCarriers x = on(plainOnes(2, 9));
         for (int i = 1; i <= 19; i++) {
-            x.owe(0, 1, i);
+            x.owe(0, 1, 5 * i);
         }
         due("count(7)", x.count(7), 19);
         x.patch(0, true);
         due("count(7)", x.count(7), 20);
-        x.owe(0, 1, 20);
+        x.owe(0, 1, 3);
         due("count(7)", x.count(7), 20);
-        for (int i = 0; i < 20; i++) {
-            due("count(7)", x.count(7), 20 - i);
+        x.patch(1, true);
+        due("count(7)", x.count(7), 20);
+        due("undo()", x.undo(), true);
+        due("carrier(1, 4)", carrierOf(x, 1, 4), 0);
+        due("undo()", x.undo(), true);
+        due("owes(0, 1)", x.owes(0, 1), 95);
+        due("undo()", x.undo(), true);
+        due("carrier(0, 4)", carrierOf(x, 0, 4), 0);
+        for (int i = 18; i >= 2; i--) {
+            due("count(7)", x.count(7), i - 1);
             due("undo()", x.undo(), true);
+            due("owes(0, 1)", x.owes(0, 1), 5 * i);
         }
         due("count(7)", x.count(7), 0);
         due("undo()", x.undo(), false);
-        due("owes(0, 1), what can't be undone any more", x.owes(0, 1), 1);
-        due("carrier(0, 4)", carrierOf(x, 0, 4), 0);
+        due("owes(0, 1), what can't be undone any more", x.owes(0, 1), 10);
     }
 
     /** "one by one": the last one first. */
@@ -526,6 +534,25 @@ public final class DebtBoundariesTest extends Checks {
         due("drank(0, 0)", x.drank(0, 0), NONE);
     }
 
+    /** "hold all": the fullest spring, and the emptiest. */
+    static void promise25HoldsTheSpring() {
+        SkinCarriers x = on(LINE + carrier("m", "mule", 60, 0, 1) + carrier("n", "mule", 60, 0, 1) + "spring 200;");
+        x.mark(0, false);
+        x.send(0, 0, 120);
+        x.mark(1, false);
+        x.send(1, 0, 80);
+        x.mark(2, false);
+        x.rest();
+        int[] springs = {200, 80, 0};
+        int[] aboves = {0, 119, 198};
+        for (int mark = 0; mark < 3; mark++) {
+            due("mark(" + mark + ", true)", x.mark(mark, true), true);
+            due("count(4)", x.count(4), springs[mark]);
+            due("count(3)", x.count(3), aboves[mark]);
+            due("count(6)", x.count(6), mark);
+        }
+    }
+
     /** "hold all": where and how much, of a book as long. */
     static void promise25HoldsTheBook() {
         SkinCarriers x = on(station("a", 0, 0) + station("b", 0, 0) + station("d", 0, 0) + station("c", 0, 0)
@@ -548,13 +575,16 @@ public final class DebtBoundariesTest extends Checks {
 
     /** "hold all": how many came. */
     static void promise25HoldsWhoCame() {
-        SkinCarriers x = on(LINE + plainOnes(3, 9) + "price came;");
-        x.send(0, 0, 1);
+        SkinCarriers x = on(LINE + carrier("x", "plain", 9, 0, 1) + plainOnes(3, 9) + "price came;");
+        x.send(0, 0, 9);
+        x.send(3, 0, 5);
         x.mark(0, false);
         x.send(1, 0, 1);
         x.mark(0, true);
+        due("count(3)", x.count(3), 13);
+        due("count(6)", x.count(6), 1);
         x.send(2, 0, 1);
-        due("carrier(2, 6)", carrierOf(x, 2, 6), 1);
+        due("carrier(2, 6), two came", carrierOf(x, 2, 6), 2);
     }
 
     /** "hold all": g. */

@@ -206,6 +206,8 @@ public final class PlanBoundariesTest extends Checks {
     static void promise15TheFirstOfEqualPaths() {
         plan(on(TRIANGLE + plainOnes(1, 9)), 9, 9, 0);
         plan(on(TRIANGLE + carrier("x", "plain", 9, 0, 1)), 9, 9, 1);
+        // Of a load of 1 or 2 nothing is left by either PATH.
+        plan(on(TRIANGLE.replace("long 30 thorns 0", "long 30 thorns 2") + carrier("x", "plain", 9, 0, 5)), 7, 9, 1);
         plan(on(DETOUR + plainOnes(1, 9) + "noon 39;"), 9, 9, 1);
         plan(on(DETOUR + plainOnes(1, 9) + "noon 40;"), 9, 9, 0);
     }
@@ -301,6 +303,15 @@ public final class PlanBoundariesTest extends Checks {
         relay(on(text + carrier("p", "plain", 20, 0, 0) + carrier("g", "goat", 20, 2, 0) + carrier("q", "plain", 20, 0, 0)), 20, 18, 0, 0, 1, 2);
     }
 
+    /** "who has it on the i-th way": by the PATH's ways, not by the numbers of its STATIONS. */
+    static void promise16OnTheIthWay() {
+        String text = station("a", 0, 0) + station("b", 0, 0) + station("c", 0, 0) + station("d", 0, 0) + station("e", 0, 0)
+            + way("a", "d", 10, 0) + way("d", "b", 10, 9) + way("b", "c", 10, 9) + way("c", "e", 10, 0);
+        SkinCarriers x = on(text + carrier("p", "plain", 20, 0, 0) + carrier("g", "goat", 20, 1, 0) + carrier("q", "plain", 20, 0, 0));
+        due("path(0, 1)", x.path(0, 1), 3);
+        relay(x, 20, 18, 0, 0, 1, 1, 2);
+    }
+
     /** "(what does not go into that one's skin is lost ..)": at a STATION. */
     static void promise16LostWhenHandedOn() {
         String x = LINE + carrier("x", "plain", 30, 3, 0);
@@ -388,6 +399,7 @@ public final class PlanBoundariesTest extends Checks {
         SkinCarriers x = on(LINE + carrier("x", "cousin", 9, 2, 3) + carrier("y", "plain", 1, 0, 0));
         relay(x, 9, 2, 0, 0, 0);
         relay(x, 8, 1, 0, 0, 0);
+        relay(x, 0, 0, 0, 0, 0);
         relay(x, 9, 2, 0, 0, 0);
         x.owe(0, 1, 1);
         relay(x, 9, 5, 0, 0, 0);
