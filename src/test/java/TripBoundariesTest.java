@@ -248,7 +248,13 @@ public final class TripBoundariesTest extends Checks {
 
     private static int leaked(String kind, int skin, int leak, int minutes, int thorns) {
         SkinCarriers x = on(pair(minutes, thorns) + carrier("x", kind, skin, leak, 9));
-        return x.trip(0, 0, carrierOf(x, 0, 1), 3);
+        return whatOf(x, carrierOf(x, 0, 1), 3);
+    }
+
+    /** Of CARRIER 0's TRIP by PATH 0, on which no mouthful gets lost or comes from nowhere. */
+    private static int whatOf(SkinCarriers x, int load, int what) {
+        due("left, drunk and leaked together", x.trip(0, 0, load, 0) + x.trip(0, 0, load, 2) + x.trip(0, 0, load, 3), load);
+        return x.trip(0, 0, load, what);
     }
 
     /** "a load (0 to what its skin holds; a mule's holds twice as much)". */
@@ -355,7 +361,8 @@ public final class TripBoundariesTest extends Checks {
 
     /** What a CARRIER of thirst 7, who owes 4, drinks of 60 at high 60 ten minutes away. */
     private static int drunkBy(String kind, String law) {
-        return on(LINE + carrier("x", kind, 60, 0, 7) + carrier("y", "plain", 9, 0, 0) + "owes x y 4;drink " + law + ";").trip(0, 0, 60, 2);
+        SkinCarriers x = on(LINE + carrier("x", kind, 60, 0, 7) + carrier("y", "plain", 9, 0, 0) + "owes x y 4;drink " + law + ";");
+        return whatOf(x, 60, 2);
     }
 
     /** "it drinks the E of drink .., 0 at least". */
@@ -365,6 +372,18 @@ public final class TripBoundariesTest extends Checks {
         due("-1", drunkBy("plain", "0 - 1"), 0);
         due("the least int", drunkBy("plain", LOWEST), 0);
         due("a goat's -1", drunkBy("goat", "0 - 1"), 0);
+    }
+
+    /** "0 at least", "what is in the skin at most": what is left tells it, too, SENT as well. */
+    static void promise09WhatIsLeftBehindADrinking() {
+        int[][] rows = {{-1, 9}, {0, 9}, {1, 8}, {8, 1}, {9, 0}, {10, 0}};
+        for (int[] row : rows) {
+            SkinCarriers x = on(LINE + plainOnes(1, 9) + "drink " + (row[0] + 1) + " - 1;");
+            due("trip, E " + row[0], x.trip(0, 0, 9, 0), row[1]);
+            due("best, E " + row[0], x.best(0, 9, 1), row[1]);
+            due("relay, E " + row[0], x.relay(9, 0), row[1]);
+            due("send, E " + row[0], x.send(0, 0, 9), row[1]);
+        }
     }
 
     /** "it drinks .. what is in the skin at most". */
