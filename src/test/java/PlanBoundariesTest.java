@@ -355,6 +355,16 @@ public final class PlanBoundariesTest extends Checks {
         relay(on(FOUR_IN_A_LINE + carrier("m", "mule", 30, 0, 0) + "drink minute;"), 60, 15, 0, 0, 0, 0);
     }
 
+    /** "as on TRIPS": the facts of the STATION where it comes to, and of the one who came. */
+    static void promise16TheFactsOfTheOneWhoCame() {
+        relay(on(LINE + plainOnes(1, 60) + "drink high - 40;"), 60, 40, 0, 0, 0);
+        relay(on(LINE + plainOnes(1, 60) + "drink (left = 60) * 7;"), 60, 53, 0, 0, 0);
+        relay(on(LINE + carrier("x", "plain", 60, 0, 9) + carrier("y", "plain", 60, 0, 4)), 60, 56, 0, 1, 0);
+        relay(on(LINE + plainOnes(2, 60) + "owes p q 3;drink debt + 3;"), 60, 60, 0, 1, 0);
+        relay(on(LINE + carrier("g", "goat", 60, 0, 2) + carrier("y", "plain", 60, 0, 3)), 60, 57, 0, 1, 0);
+        relay(on(LINE + carrier("x", "plain", 60, 0, 2) + carrier("k", "cousin", 60, 0, 9) + "owes k x 1;"), 60, 60, 0, 1, 0);
+    }
+
     /** "By noon, the most left". */
     static void promise16ByNoonTheMostLeft() {
         String x = TRIANGLE + carrier("x", "plain", 20, 0, 5);
