@@ -553,6 +553,23 @@ public final class DebtBoundariesTest extends Checks {
         }
     }
 
+    /** "hold all": more drinkings than came. */
+    static void promise25HoldsALongBook() {
+        SkinCarriers x = on(LINE + station("d", 0, 0) + station("e", 0, 0) + way("c", "d", 10, 0) + way("d", "e", 10, 0)
+            + carrier("x", "plain", 9, 0, 1) + carrier("y", "plain", 9, 0, 2));
+        x.send(1, 0, 9);
+        x.mark(0, false);
+        x.rest();
+        x.send(0, 0, 9);
+        x.mark(0, true);
+        due("count(6)", x.count(6), 3);
+        for (int i = 0; i < 3; i++) {
+            due("drank(" + i + ", 0)", x.drank(i, 0), 1);
+            due("drank(" + i + ", 1)", x.drank(i, 1), 1 + i);
+            due("drank(" + i + ", 2)", x.drank(i, 2), 2);
+        }
+    }
+
     /** "hold all": where and how much, of a book as long. */
     static void promise25HoldsTheBook() {
         SkinCarriers x = on(station("a", 0, 0) + station("b", 0, 0) + station("d", 0, 0) + station("c", 0, 0)

@@ -139,6 +139,17 @@ public final class PlanBoundariesTest extends Checks {
             13, 8, 0, 9, 0, 0, NONE);
     }
 
+    /** "no more together than the spring gives": what is taken from it counts, not what is left above. */
+    static void promise15WhatIsTakenFromTheSpring() {
+        String two = LINE + carrier("x", "plain", 9, 0, 4) + plainOnes(1, 9);
+        plan(on(two + "spring 12;"), 9, 0, NONE, 9, 0);
+        plan(on(two + "spring 13;"), 9, 0, NONE, 9, 0);
+        plan(on(two + "spring 14;"), 10, 5, 0, 9, 0);
+        plan(on(two + "spring 17;"), 13, 8, 0, 9, 0);
+        plan(on(two + "spring 18;"), 14, 9, 0, 9, 0);
+        plan(on(two + "spring 19;"), 14, 9, 0, 9, 0);
+    }
+
     /** The most: "spring 200", "skin 60", "a mule's holds twice as much", six CARRIERS. */
     static void promise15TheMostOfAll() {
         String mules = carrier("m", "mule", 60, 0, 0) + carrier("n", "mule", 60, 0, 0);

@@ -658,6 +658,9 @@ public final class TextBoundariesTest extends Checks {
         fault(1, "drink ((1)^;");
         fault(1, "drink 1^);");
         fault(1, "drink (1)^);");
+        fault(1, "drink 1 + 1^);");
+        fault(1, "drink 1 and not 1^);");
+        fault(1, "drink 1 < 2 * (3)^);");
         fault(1, "drink ^);");
         fault(1, "drink (1^");
     }

@@ -526,6 +526,17 @@ public final class TripBoundariesTest extends Checks {
         due("20 - (1 + (2 * (3 < (4 and 5))))", drunkBy("plain", "20 - (1 + (2 * (3 < (4 and 5))))"), 19);
     }
 
+    /** The longest and the deepest E. */
+    static void promise09TheLongestAndTheDeepestE() {
+        due("253 PARTS", drunkBy("plain", "1" + "+1-1".repeat(125) + "+4".repeat(2)), 9);
+        due("102 TESTS", drunkBy("plain", "0" + " or 0".repeat(100) + " or 1"), 1);
+        due("100 PRODUCTS", drunkBy("plain", "7" + "*1".repeat(99)), 7);
+        String deep = "0 or 0 < 0 + 1 * (";
+        due("all that can wait", drunkBy("plain", deep.repeat(4) + "0 or 0 < 0 + 1 * 7))))"), 1);
+        due("all that can wait, not so", drunkBy("plain", "5 - (" + deep.repeat(3) + "0 or 0 < 0 + 1 * 0))))"), 5);
+        due("nots", drunkBy("plain", "4 + not not not not 5 + 2 * not not not 0"), 7);
+    }
+
     /** "Without drink: thirst". */
     static void promise09WithoutDrinkThirst() {
         due("thirst 9", on(LINE + carrier("x", "plain", 60, 0, 9)).trip(0, 0, 60, 2), 9);
@@ -787,6 +798,15 @@ public final class TripBoundariesTest extends Checks {
         due("carrier(0, 6)", carrierOf(x, 0, 6), 0);
         x.send(1, 0, 2);
         due("carrier(1, 6), two came with 5", carrierOf(x, 1, 6), 50);
+    }
+
+    /** "the E of price": its facts at the deepest. */
+    static void promise10TheFactsOfADeepPrice() {
+        SkinCarriers x = on(LINE + plainOnes(2, 9) + "price 2 + 1 * (3 + 1 * (4 + 1 * (5 + 1 * (above + 1 * came))));");
+        x.send(0, 0, 7);
+        due("carrier(0, 6)", carrierOf(x, 0, 6), 14 * 7);
+        x.send(1, 0, 2);
+        due("carrier(1, 6)", carrierOf(x, 1, 6), (14 + 7 + 1) * 2);
     }
 
     /** "Without .. price: 1". */
