@@ -555,12 +555,19 @@ public final class DebtBoundariesTest extends Checks {
 
     /** "hold all": more drinkings than came. */
     static void promise25HoldsALongBook() {
-        SkinCarriers x = on(LINE + station("d", 0, 0) + station("e", 0, 0) + way("c", "d", 10, 0) + way("d", "e", 10, 0)
-            + carrier("x", "plain", 9, 0, 1) + carrier("y", "plain", 9, 0, 2));
+        StringBuilder text = new StringBuilder();
+        for (char name = 'a'; name <= 'g'; name++) {
+            text.append(station(String.valueOf(name), 0, 0));
+        }
+        for (String pair : new String[] {"ab", "bc", "cd", "dg", "ae", "ef", "fg"}) {
+            text.append(way(pair.substring(0, 1), pair.substring(1), 10, 0));
+        }
+        SkinCarriers x = on(text + carrier("x", "plain", 9, 0, 1) + carrier("y", "plain", 9, 0, 2));
         x.send(1, 0, 9);
         x.mark(0, false);
         x.rest();
-        x.send(0, 0, 9);
+        x.send(0, 1, 9);
+        due("drank(1, 1)", x.drank(1, 1), 5);
         x.mark(0, true);
         due("count(6)", x.count(6), 3);
         for (int i = 0; i < 3; i++) {

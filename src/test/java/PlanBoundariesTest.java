@@ -419,6 +419,7 @@ public final class PlanBoundariesTest extends Checks {
     static void promise16AsThingsAreNow() {
         SkinCarriers x = on(LINE + carrier("x", "cousin", 9, 2, 3) + carrier("y", "plain", 1, 0, 0));
         relay(x, 9, 2, 0, 0, 0);
+        relay(x, 2, 1, 0, 1, 1);
         relay(x, 8, 1, 0, 0, 0);
         relay(x, 0, 0, 0, 0, 0);
         relay(x, 9, 2, 0, 0, 0);

@@ -457,6 +457,24 @@ public final class TripBoundariesTest extends Checks {
         due("debt by hand", owed.trip(0, 0, 60, 2), 60);
     }
 
+    /** "the STATION where it comes to": by the PATH, not by its place on it. */
+    private static SkinCarriers crooked(String law) {
+        SkinCarriers x = on(station("a", 0, 0) + station("b", 10, 1) + station("d", 20, 2) + station("c", 30, 3)
+            + way("a", "d", 10, 0) + way("d", "b", 20, 1) + way("b", "c", 30, 2) + carrier("x", "plain", 60, 1, 0) + "drink " + law + ";");
+        due("path(0, 1)", x.path(0, 1), 2);
+        due("path(0, 2)", x.path(0, 2), 1);
+        return x;
+    }
+
+    /** "high (of the STATION)", "minute (since it left)", "left": on a PATH that goes up and down. */
+    static void promise09TheStationWhereItComesTo() {
+        due("high", whatOf(crooked("high"), 50, 2), 30);
+        due("high and minute", whatOf(crooked("(high = 20 and minute = 10) * 5 + (high = 10 and minute = 30) * 3"), 50, 2), 8);
+        due("left", whatOf(crooked("(high = 20 and left = 49) * 5 + (high = 10 and left = 41) * 3"), 50, 2), 8);
+        due("leaked", whatOf(crooked("0"), 50, 3), 1 + 3 + 5);
+        due("minutes", whatOf(crooked("0"), 50, 1), 60);
+    }
+
     /** "ints wrap". */
     static void promise09IntsWrap() {
         due("a product below", drunkBy("plain", "(9999*9999*22 < 0) * 5"), 5);
@@ -751,6 +769,18 @@ public final class TripBoundariesTest extends Checks {
         x.rest();
         due("after REST", x.send(0, 0, 6), 9);
         due("station(1, 2)", x.station(1, 2), 2);
+    }
+
+    /** "of the fall there", "who drank where": on a PATH that goes up and down. */
+    static void promise10TheFallThere() {
+        SkinCarriers x = crooked("1");
+        due("send", x.send(0, 0, 20), 20 - 1 + 2 - 1 - 3 + 1 - 1 - 5);
+        int[] falls = {0, 0, 0, 3};
+        for (int i = 0; i < 4; i++) {
+            due("station(" + i + ", 2)", x.station(i, 2), falls[i]);
+        }
+        due("drank(0, 1)", x.drank(0, 1), 2);
+        due("drank(1, 1)", x.drank(1, 1), 1);
     }
 
     /** "ahead of each drinking": what fog and fall give is in the skin for the E, and can be drunk. */
