@@ -549,9 +549,10 @@ public final class TripBoundariesTest extends Checks {
         due("253 PARTS", drunkBy("plain", "1" + "+1-1".repeat(125) + "+4".repeat(2)), 9);
         due("102 TESTS", drunkBy("plain", "0" + " or 0".repeat(100) + " or 1"), 1);
         due("100 PRODUCTS", drunkBy("plain", "7" + "*1".repeat(99)), 7);
-        String deep = "0 or 0 < 0 + 1 * (";
-        due("all that can wait", drunkBy("plain", deep.repeat(4) + "0 or 0 < 0 + 1 * 7))))"), 1);
-        due("all that can wait, not so", drunkBy("plain", "5 - (" + deep.repeat(3) + "0 or 0 < 0 + 1 * 0))))"), 5);
+        String deep = "1 and 3 < 2 + 2 * (";
+        due("all that can wait", drunkBy("plain", deep.repeat(4) + "1 and 3 < 2 + 2 * 7))))"), 1);
+        due("all that can wait, not so", drunkBy("plain", deep.repeat(4) + "1 and 3 < 2 + 2 * 0))))"), 0);
+        due("all that can wait, and joins from there on", drunkBy("plain", deep.repeat(4) + "1 and 3 < 2 + 2 * 0)))) + 3 or 0"), 1);
         due("nots", drunkBy("plain", "4 + not not not not 5 + 2 * not not not 0"), 7);
     }
 
